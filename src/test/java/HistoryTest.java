@@ -1,0 +1,168 @@
+/** Promises 12, 13 and 14: undo, keep, restore. */
+public final class HistoryTest {
+    private static final Check CHECK = new Check("HistoryTest");
+
+    public static void main(String[] args) {
+        eachActIsUndone();
+        fourStatesAtMost();
+        onlyActsAreRecorded();
+        snapshots();
+        snapshotIsNotUndone();
+        CHECK.end();
+    }
+
+    /** A drawer with something of everything: a blown fuse, a broken disk, reads, a planned fault. */
+    private static DiskDrawer full() {
+        DiskDrawer x = new DiskDrawer();
+        x.set(0, 2);
+        Check.performed(x, "fail 1;read 1 9;run 3;fail 1;run 3;fail 1;run 3;read 2 9;run 5;read 3 9;read 2 5");
+        Check.performed(x, "fail 4;run 1");
+        x.set(5, 10);
+        x.set(6, 1);
+        x.run(1);
+        CHECK.due("blown", x.count(11), 1);
+        return x;
+    }
+
+    private static int act(DiskDrawer x, int which) {
+        switch (which) {
+            case 0:
+                return x.set(5, 95);
+            case 1:
+                return x.read(11, 3);
+            case 2:
+                return x.drop(1);
+            case 3:
+                return x.fail(6);
+            case 4:
+                return x.replace(1);
+            case 5:
+                return x.fuse();
+            case 6:
+                return x.run(17);
+            case 7:
+                return x.perform();
+            default:
+                return x.restore();
+        }
+    }
+
+    private static void eachActIsUndone() {
+        for (int which = 0; which < 9; which++) {
+            DiskDrawer x = full();
+            Check.write(x, "fuse;run 3;fail 8;read 7 7;run 9");
+            if (which == 8) {
+                x.undo();
+                x.keep();
+                x.run(20);
+            }
+            String before = Check.state(x);
+            int states = x.count(17);
+            CHECK.holds("act " + which, act(x, which) >= 0);
+            CHECK.holds("act " + which + " changes the state", !Check.state(x).equals(before));
+            CHECK.due("act " + which + " is recorded", x.count(17), Math.min(4, states + 1));
+            CHECK.due("undo of act " + which, x.undo(), Math.min(4, states + 1) - 1);
+            CHECK.same("act " + which + " undone", Check.state(x), before);
+            CHECK.due("the text behind act " + which, x.count(18), 32);
+        }
+    }
+
+    private static void fourStatesAtMost() {
+        DiskDrawer x = new DiskDrawer();
+        for (int act = 1; act <= 9; act++) {
+            x.run(1);
+            CHECK.due("states", x.count(17), Math.min(act, 4));
+        }
+        for (int left = 3; left >= 0; left--) {
+            CHECK.due("undo()", x.undo(), left);
+            CHECK.due("ticks", x.count(0), 5 + left);
+            CHECK.due("states", x.count(17), left);
+        }
+        CHECK.due("undo() of nothing", x.undo(), -5);
+        CHECK.due("ticks stay", x.count(0), 5);
+        x.run(3);
+        x.run(3);
+        CHECK.due("undo() behind new acts", x.undo(), 1);
+        CHECK.due("ticks", x.count(0), 8);
+        x.read(0, 1);
+        CHECK.due("undo()", x.undo(), 1);
+        CHECK.due("undo()", x.undo(), 0);
+        CHECK.due("ticks", x.count(0), 5);
+    }
+
+    private static void onlyActsAreRecorded() {
+        DiskDrawer x = full();
+        x.undo();
+        x.undo();
+        x.undo();
+        x.undo();
+        CHECK.due("no states", x.count(17), 0);
+        x.type('f');
+        x.clearText();
+        x.keep();
+        x.couldStart();
+        x.answeredIn(1);
+        x.ifAtOnce(3, 0);
+        x.ifAtOnce(3, 1);
+        x.bestAtOnce();
+        x.readOf(1, 1);
+        x.set(8, 3);
+        x.set(8, 13);
+        x.read(1, 1);
+        x.drop(99);
+        x.fail(1);
+        x.replace(-1);
+        x.fuse();
+        x.run(0);
+        x.perform();
+        CHECK.due("no states still", x.count(17), 0);
+        CHECK.due("undo()", x.undo(), -5);
+    }
+
+    private static void snapshots() {
+        DiskDrawer x = full();
+        String kept = Check.state(x);
+        int ticks = x.count(0);
+        CHECK.due("keep()", x.keep(), ticks);
+        x.fuse();
+        x.set(5, 500);
+        x.run(30);
+        x.replace(1);
+        x.read(1, 1);
+        String later = Check.state(x);
+        CHECK.due("restore()", x.restore(), ticks);
+        CHECK.same("as it was kept", Check.state(x), kept);
+        CHECK.due("states", x.count(17), 4);
+        CHECK.due("restore() again", x.restore(), ticks);
+        CHECK.due("undo()", x.undo(), 3);
+        CHECK.same("the second restore undone", Check.state(x), kept);
+        CHECK.due("undo()", x.undo(), 2);
+        CHECK.same("the first restore undone", Check.state(x), later);
+        CHECK.due("keep()", x.keep(), ticks + 30);
+        x.run(1);
+        CHECK.due("restore()", x.restore(), ticks + 30);
+        CHECK.same("the later snapshot", Check.state(x), later);
+        DiskDrawer y = new DiskDrawer();
+        CHECK.due("restore() of nothing", y.restore(), -5);
+        CHECK.due("is not recorded", y.count(17), 0);
+        CHECK.due("keep()", y.keep(), 0);
+        CHECK.due("restore()", y.restore(), 0);
+        CHECK.due("is recorded", y.count(17), 1);
+    }
+
+    private static void snapshotIsNotUndone() {
+        DiskDrawer x = new DiskDrawer();
+        x.run(5);
+        x.keep();
+        x.undo();
+        CHECK.due("ticks", x.count(0), 0);
+        CHECK.due("the snapshot stays", x.restore(), 5);
+        x.run(7);
+        x.keep();
+        x.restore();
+        x.undo();
+        x.undo();
+        CHECK.due("ticks", x.count(0), 5);
+        CHECK.due("the latest snapshot", x.restore(), 12);
+    }
+}
