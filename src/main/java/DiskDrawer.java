@@ -917,8 +917,6 @@ public final class DiskDrawer {
 
         private boolean takeCommand(int place) {
             kinds[place] = takeWord();
-            firsts[place] = 0;
-            seconds[place] = 0;
             switch (kinds[place]) {
                 case READ:
                     return takeFirst(place, 0, DISKS - 1) && takeSecond(place, 1, LONGEST_READ);

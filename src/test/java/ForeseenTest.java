@@ -13,6 +13,7 @@ public final class ForeseenTest {
         greatestCurrent();
         blownBehind100();
         bestAtOnce();
+        bestByOneTick();
         nothingIsChanged();
         CHECK.end();
     }
@@ -197,6 +198,8 @@ public final class ForeseenTest {
         x.run(200);
         CHECK.due("greatest so far", x.count(2), 3 * 20 + 9 * 6);
         CHECK.due("only what comes", x.ifAtOnce(12, 1), 12 * 6);
+        x.set(2, 0);
+        CHECK.due("no current at all", x.ifAtOnce(12, 1), 0);
         DiskDrawer y = new DiskDrawer();
         y.set(0, 20);
         y.set(1, 1);
@@ -268,6 +271,16 @@ public final class ForeseenTest {
         y.read(0, 50);
         CHECK.due("the fuse allows one at once", y.ifAtOnce(2, 0), 72);
         CHECK.due("and so one is the best still", y.bestAtOnce(), 1);
+    }
+
+    private static void bestByOneTick() {
+        DiskDrawer x = new DiskDrawer();
+        x.set(0, 1);
+        x.read(0, 1);
+        x.read(1, 1);
+        CHECK.due("one at once", x.ifAtOnce(1, 0), 3);
+        CHECK.due("two at once", x.ifAtOnce(2, 0), 2);
+        CHECK.due("two are the best", x.bestAtOnce(), 2);
     }
 
     private static void nothingIsChanged() {

@@ -5,6 +5,8 @@ public final class HistoryTest {
     public static void main(String[] args) {
         eachActIsUndone();
         fourStatesAtMost();
+        wrongCallsLeaveTheStates();
+        hotTicksAreUndone();
         onlyActsAreRecorded();
         snapshots();
         snapshotIsNotUndone();
@@ -88,6 +90,44 @@ public final class HistoryTest {
         CHECK.due("undo()", x.undo(), 1);
         CHECK.due("undo()", x.undo(), 0);
         CHECK.due("ticks", x.count(0), 5);
+    }
+
+    private static void wrongCallsLeaveTheStates() {
+        DiskDrawer x = new DiskDrawer();
+        for (int act = 1; act <= 6; act++) {
+            x.run(act);
+            x.run(0);
+            x.set(0, 6);
+            CHECK.due("not possible", Check.performed(x, programThatEndsBadly()), -4);
+        }
+        for (int act = 5; act >= 2; act--) {
+            x.undo();
+            CHECK.due("ticks behind act " + act, x.count(0), act * (act + 1) / 2);
+        }
+        CHECK.due("no more states", x.undo(), -5);
+    }
+
+    /** It breaks a disk, for which its last command can plan no fault then. */
+    private static String programThatEndsBadly() {
+        return "run 7;fail 0;read 0 1;run 9;fail 0;run 7;fail 0;run 7;fail 0";
+    }
+
+    private static void hotTicksAreUndone() {
+        DiskDrawer x = new DiskDrawer();
+        x.set(5, 11);
+        x.set(7, 20);
+        x.run(5);
+        x.keep();
+        CHECK.due("hot ticks", x.count(12), 5);
+        x.run(3);
+        CHECK.due("more of them", x.count(12), 8);
+        x.undo();
+        CHECK.due("undone", x.count(12), 5);
+        x.set(5, 12);
+        x.run(1);
+        CHECK.due("none", x.count(12), 0);
+        x.restore();
+        CHECK.due("restored", x.count(12), 5);
     }
 
     private static void onlyActsAreRecorded() {

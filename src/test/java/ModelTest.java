@@ -125,7 +125,12 @@ public final class ModelTest {
 
     private static void historyOrTold(String where, int kind) {
         if (kind < 92) {
-            due(where + "undo()", x.undo(), y.undo());
+            // Often many in a row, so that the oldest state is seen, too.
+            for (int more = any(3) == 0 ? 5 : 1; more > 0; more--) {
+                due(where + "undo()", x.undo(), y.undo());
+                due(where + "ticks behind undo()", x.count(0), y.count(0));
+                due(where + "reads behind undo()", x.count(4), y.count(4));
+            }
         } else if (kind < 94) {
             due(where + "keep()", x.keep(), y.keep());
         } else if (kind < 95) {
