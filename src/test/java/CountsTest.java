@@ -10,20 +10,20 @@ public final class CountsTest {
     }
 
     private static void wrongInputs() {
-        DiskDrawer x = new DiskDrawer();
+        Used x = new Used();
         for (int what : new int[] {-1, 19, 30, Integer.MIN_VALUE, Integer.MAX_VALUE}) {
             CHECK.due("count(" + what + ")", x.count(what), -2);
         }
     }
 
-    private static void due(DiskDrawer x, String when, int... due) {
+    private static void due(Used x, String when, int... due) {
         for (int place = 0; place < due.length; place += 2) {
             CHECK.due(when + ": count(" + due[place] + ")", x.count(due[place]), due[place + 1]);
         }
     }
 
     private static void eachCount() {
-        DiskDrawer x = new DiskDrawer();
+        Used x = new Used();
         x.set(0, 2);
         x.set(9, 2);
         Check.performed(x, "read 0 1;read 1 3;read 2 2;read 3 9;fail 3;fail 0");
@@ -43,7 +43,7 @@ public final class CountsTest {
     }
 
     private static void greatestCurrentSoFar() {
-        DiskDrawer x = new DiskDrawer();
+        Used x = new Used();
         x.set(4, 5);
         due(x, "no tick", 1, 60, 2, 0);
         x.run(1);

@@ -15,7 +15,7 @@ public final class DisksTest {
     }
 
     private static void wrongInputs() {
-        DiskDrawer x = new DiskDrawer();
+        Used x = new Used();
         for (int disk : new int[] {-1, 12, Integer.MIN_VALUE, Integer.MAX_VALUE}) {
             CHECK.due("fail(" + disk + ")", x.fail(disk), -1);
             CHECK.due("replace(" + disk + ")", x.replace(disk), -1);
@@ -29,7 +29,7 @@ public final class DisksTest {
     }
 
     private static void plannedFaults() {
-        DiskDrawer x = new DiskDrawer();
+        Used x = new Used();
         CHECK.due("fail(11)", x.fail(11), 1);
         CHECK.due("fail(0)", x.fail(0), 2);
         CHECK.due("fail(11) again", x.fail(11), -5);
@@ -44,7 +44,7 @@ public final class DisksTest {
     }
 
     private static void aStartThatFails() {
-        DiskDrawer x = new DiskDrawer();
+        Used x = new Used();
         x.read(4, 1);
         x.run(1);
         x.fail(4);
@@ -69,7 +69,7 @@ public final class DisksTest {
 
     /** Another disk starts in the tick in which one failed, though that one has the lower number. */
     private static void aSuccessForgetsFailures() {
-        DiskDrawer x = new DiskDrawer();
+        Used x = new Used();
         x.set(0, 2);
         x.set(8, 1);
         x.set(9, 1);
@@ -100,8 +100,8 @@ public final class DisksTest {
         CHECK.due("it is not broken", x.disk(0, 0), 0);
     }
 
-    private static DiskDrawer withBrokenDisk() {
-        DiskDrawer x = new DiskDrawer();
+    private static Used withBrokenDisk() {
+        Used x = new Used();
         x.set(0, 1);
         x.read(2, 5);
         x.read(3, 50);
@@ -114,7 +114,7 @@ public final class DisksTest {
     }
 
     private static void theThirdFailureBreaks() {
-        DiskDrawer x = withBrokenDisk();
+        Used x = withBrokenDisk();
         CHECK.due("it is broken", x.disk(2, 0), 3);
         CHECK.due("it has no current", x.disk(2, 1), 0);
         CHECK.due("three failures", x.disk(2, 3), 3);
@@ -142,7 +142,7 @@ public final class DisksTest {
     }
 
     private static void replaceTells() {
-        DiskDrawer x = new DiskDrawer();
+        Used x = new Used();
         CHECK.due("of one that stands by", x.replace(0), 0);
         CHECK.due("this is recorded", x.count(17), 1);
         x.fail(0);
@@ -171,7 +171,7 @@ public final class DisksTest {
     }
 
     private static void replaceWhileReading() {
-        DiskDrawer x = new DiskDrawer();
+        Used x = new Used();
         x.read(6, 10);
         x.read(7, 10);
         x.read(6, 20);
@@ -188,7 +188,7 @@ public final class DisksTest {
     }
 
     private static void replaceBroken() {
-        DiskDrawer x = withBrokenDisk();
+        Used x = withBrokenDisk();
         CHECK.due("replace(2)", x.replace(2), 3);
         CHECK.due("it stands by", x.disk(2, 0), 0);
         CHECK.due("no failures", x.disk(2, 3), 0);

@@ -19,7 +19,7 @@ public final class ForeseenTest {
     }
 
     private static void wrongInputs() {
-        DiskDrawer x = new DiskDrawer();
+        Used x = new Used();
         x.read(0, 1);
         for (int read : new int[] {-1, 1, Integer.MIN_VALUE, Integer.MAX_VALUE}) {
             CHECK.due("answeredIn(" + read + ")", x.answeredIn(read), -1);
@@ -36,7 +36,7 @@ public final class ForeseenTest {
     }
 
     private static void couldStart() {
-        DiskDrawer x = new DiskDrawer();
+        Used x = new Used();
         CHECK.due("three at once", x.couldStart(), 3);
         x.set(8, 12);
         CHECK.due("by the fuse of 90", x.couldStart(), 4);
@@ -69,7 +69,7 @@ public final class ForeseenTest {
         CHECK.due("none behind a blown fuse", x.couldStart(), 0);
         x.fuse();
         CHECK.due("a new fuse", x.couldStart(), 10);
-        DiskDrawer y = new DiskDrawer();
+        Used y = new Used();
         y.set(4, 5);
         y.set(1, 3);
         y.set(8, 12);
@@ -80,7 +80,7 @@ public final class ForeseenTest {
     }
 
     private static void answeredIn() {
-        DiskDrawer x = new DiskDrawer();
+        Used x = new Used();
         x.set(8, 1);
         x.read(0, 3);
         x.read(1, 1);
@@ -94,7 +94,7 @@ public final class ForeseenTest {
         x.run(20);
         CHECK.due("in one tick", x.answeredIn(0), 1);
         CHECK.due("it is", x.run(1), 1);
-        DiskDrawer y = new DiskDrawer();
+        Used y = new Used();
         y.set(8, 12);
         y.set(5, 50);
         y.set(6, 0);
@@ -119,7 +119,7 @@ public final class ForeseenTest {
     }
 
     private static void answeredInAtMost400() {
-        DiskDrawer x = new DiskDrawer();
+        Used x = new Used();
         for (int read = 0; read < 7; read++) {
             x.read(0, 50);
         }
@@ -132,7 +132,7 @@ public final class ForeseenTest {
     }
 
     private static void answeredInOfLost() {
-        DiskDrawer x = new DiskDrawer();
+        Used x = new Used();
         x.set(0, 1);
         x.read(0, 9);
         x.read(1, 20);
@@ -152,7 +152,7 @@ public final class ForeseenTest {
     }
 
     private static void untilNoReadWaits() {
-        DiskDrawer x = new DiskDrawer();
+        Used x = new Used();
         CHECK.due("none waits", x.ifAtOnce(5, 0), 0);
         x.set(5, 500);
         for (int disk = 0; disk < 12; disk++) {
@@ -170,7 +170,7 @@ public final class ForeseenTest {
     }
 
     private static void untilNoReadWaitsAtMost400() {
-        DiskDrawer x = new DiskDrawer();
+        Used x = new Used();
         for (int read = 0; read < 7; read++) {
             x.read(0, 50);
         }
@@ -186,7 +186,7 @@ public final class ForeseenTest {
     }
 
     private static void greatestCurrent() {
-        DiskDrawer x = new DiskDrawer();
+        Used x = new Used();
         CHECK.due("all stand by", x.ifAtOnce(1, 1), 12);
         x.set(5, 500);
         x.set(9, 0);
@@ -200,7 +200,7 @@ public final class ForeseenTest {
         CHECK.due("only what comes", x.ifAtOnce(12, 1), 12 * 6);
         x.set(2, 0);
         CHECK.due("no current at all", x.ifAtOnce(12, 1), 0);
-        DiskDrawer y = new DiskDrawer();
+        Used y = new Used();
         y.set(0, 20);
         y.set(1, 1);
         y.set(9, 0);
@@ -215,7 +215,7 @@ public final class ForeseenTest {
     }
 
     private static void blownBehind100() {
-        DiskDrawer x = new DiskDrawer();
+        Used x = new Used();
         x.set(5, 12);
         x.set(1, 1);
         x.set(0, 20);
@@ -244,7 +244,7 @@ public final class ForeseenTest {
     }
 
     private static void bestAtOnce() {
-        DiskDrawer x = new DiskDrawer();
+        Used x = new Used();
         x.read(0, 1);
         x.read(4, 1);
         x.read(8, 1);
@@ -253,7 +253,7 @@ public final class ForeseenTest {
         CHECK.due("whatever is set", x.bestAtOnce(), 3);
         x.read(0, 50);
         CHECK.due("one is as good as any", x.bestAtOnce(), 1);
-        DiskDrawer y = new DiskDrawer();
+        Used y = new Used();
         y.set(5, 50);
         y.set(6, 0);
         y.set(2, 20);
@@ -274,7 +274,7 @@ public final class ForeseenTest {
     }
 
     private static void bestByOneTick() {
-        DiskDrawer x = new DiskDrawer();
+        Used x = new Used();
         x.set(0, 1);
         x.read(0, 1);
         x.read(1, 1);
@@ -284,7 +284,7 @@ public final class ForeseenTest {
     }
 
     private static void nothingIsChanged() {
-        DiskDrawer x = new DiskDrawer();
+        Used x = new Used();
         for (int disk = 0; disk < 12; disk++) {
             x.read(disk, 1 + disk);
         }

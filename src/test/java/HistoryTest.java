@@ -14,8 +14,8 @@ public final class HistoryTest {
     }
 
     /** A drawer with something of everything: a blown fuse, a broken disk, reads, a planned fault. */
-    private static DiskDrawer full() {
-        DiskDrawer x = new DiskDrawer();
+    private static Used full() {
+        Used x = new Used();
         x.set(0, 2);
         Check.performed(x, "fail 1;read 1 9;run 3;fail 1;run 3;fail 1;run 3;read 2 9;run 5;read 3 9;read 2 5");
         Check.performed(x, "fail 4;run 1");
@@ -26,7 +26,7 @@ public final class HistoryTest {
         return x;
     }
 
-    private static int act(DiskDrawer x, int which) {
+    private static int act(Used x, int which) {
         switch (which) {
             case 0:
                 return x.set(5, 95);
@@ -49,17 +49,22 @@ public final class HistoryTest {
         }
     }
 
+    private static Used readyFor(int which) {
+        Used x = full();
+        Check.write(x, "fuse;run 3;fail 8;read 7 7;run 9");
+        if (which == 8) {
+            x.undo();
+            x.keep();
+            x.run(20);
+        }
+        return x;
+    }
+
     private static void eachActIsUndone() {
         for (int which = 0; which < 9; which++) {
-            DiskDrawer x = full();
-            Check.write(x, "fuse;run 3;fail 8;read 7 7;run 9");
-            if (which == 8) {
-                x.undo();
-                x.keep();
-                x.run(20);
-            }
-            String before = Check.state(x);
-            int states = x.count(17);
+            String before = Check.state(readyFor(which));
+            int states = readyFor(which).count(17);
+            Used x = readyFor(which);
             CHECK.holds("act " + which, act(x, which) >= 0);
             CHECK.holds("act " + which + " changes the state", !Check.state(x).equals(before));
             CHECK.due("act " + which + " is recorded", x.count(17), Math.min(4, states + 1));
@@ -70,7 +75,7 @@ public final class HistoryTest {
     }
 
     private static void fourStatesAtMost() {
-        DiskDrawer x = new DiskDrawer();
+        Used x = new Used();
         for (int act = 1; act <= 9; act++) {
             x.run(1);
             CHECK.due("states", x.count(17), Math.min(act, 4));
@@ -93,7 +98,7 @@ public final class HistoryTest {
     }
 
     private static void wrongCallsLeaveTheStates() {
-        DiskDrawer x = new DiskDrawer();
+        Used x = new Used();
         for (int act = 1; act <= 6; act++) {
             x.run(act);
             x.run(0);
@@ -113,7 +118,7 @@ public final class HistoryTest {
     }
 
     private static void hotTicksAreUndone() {
-        DiskDrawer x = new DiskDrawer();
+        Used x = new Used();
         x.set(5, 11);
         x.set(7, 20);
         x.run(5);
@@ -131,7 +136,7 @@ public final class HistoryTest {
     }
 
     private static void onlyActsAreRecorded() {
-        DiskDrawer x = full();
+        Used x = full();
         x.undo();
         x.undo();
         x.undo();
@@ -159,30 +164,37 @@ public final class HistoryTest {
         CHECK.due("undo()", x.undo(), -5);
     }
 
-    private static void snapshots() {
-        DiskDrawer x = full();
-        String kept = Check.state(x);
-        int ticks = x.count(0);
-        CHECK.due("keep()", x.keep(), ticks);
+    private static Used keptAndChanged() {
+        Used x = full();
+        x.keep();
         x.fuse();
         x.set(5, 500);
         x.run(30);
         x.replace(1);
         x.read(1, 1);
-        String later = Check.state(x);
+        return x;
+    }
+
+    private static void snapshots() {
+        String kept = Check.state(full());
+        String later = Check.state(keptAndChanged());
+        int ticks = full().count(0);
+        CHECK.due("keep()", full().keep(), ticks);
+        Used x = keptAndChanged();
         CHECK.due("restore()", x.restore(), ticks);
         CHECK.same("as it was kept", Check.state(x), kept);
         CHECK.due("states", x.count(17), 4);
         CHECK.due("restore() again", x.restore(), ticks);
         CHECK.due("undo()", x.undo(), 3);
-        CHECK.same("the second restore undone", Check.state(x), kept);
+        CHECK.due("the second restore undone", x.count(0), ticks);
         CHECK.due("undo()", x.undo(), 2);
         CHECK.same("the first restore undone", Check.state(x), later);
-        CHECK.due("keep()", x.keep(), ticks + 30);
-        x.run(1);
-        CHECK.due("restore()", x.restore(), ticks + 30);
-        CHECK.same("the later snapshot", Check.state(x), later);
-        DiskDrawer y = new DiskDrawer();
+        Used z = keptAndChanged();
+        CHECK.due("keep()", z.keep(), ticks + 30);
+        z.run(1);
+        CHECK.due("restore()", z.restore(), ticks + 30);
+        CHECK.same("the later snapshot", Check.state(z), later);
+        Used y = new Used();
         CHECK.due("restore() of nothing", y.restore(), -5);
         CHECK.due("is not recorded", y.count(17), 0);
         CHECK.due("keep()", y.keep(), 0);
@@ -191,7 +203,7 @@ public final class HistoryTest {
     }
 
     private static void snapshotIsNotUndone() {
-        DiskDrawer x = new DiskDrawer();
+        Used x = new Used();
         x.run(5);
         x.keep();
         x.undo();

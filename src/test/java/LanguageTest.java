@@ -145,7 +145,7 @@ public final class LanguageTest {
         drawer.type('u');
         drawer.type('s');
         drawer.type('e');
-        for (int turn = 0; turn < 35; turn++) {
+        for (int turn = 0; turn < 31; turn++) {
             sum += drawer.set(turn % 10, turn) + drawer.read(turn % 12, turn) + drawer.drop(turn / 2);
             sum += drawer.fail(turn % 5) + drawer.run(turn) + drawer.perform() + drawer.keep() + drawer.restore();
             sum += drawer.undo() + drawer.answeredIn(turn) + drawer.ifAtOnce(3, turn % 3) + drawer.bestAtOnce();

@@ -3,30 +3,52 @@ public final class ModelTest {
     private static final Check CHECK = new Check("ModelTest");
     private static final int[] LOW = {1, 1, 0, 0, 0, 10, 0, 0, 1, 0};
     private static final int[] HIGH = {20, 50, 20, 20, 5, 500, 100, 20, 12, 500};
-    private static final int RUNS = 300;
-    private static final int CALLS = 500;
+    private static final int RUNS = 4000;
+    /** Calls that one act, and that compareAll, may take at most. */
+    private static final int CALLS_OF_AN_ACT = 90;
+    private static final int CALLS_OF_COMPARING = 320;
     private static final String[] PIECES = {
         "read ", "fail ", "run ", "fuse", ";", " ", "0", "1", "5", "11", "12", "50", "51", "200", "201", "r", "f", "ru",
     };
 
     private static long seed;
-    private static DiskDrawer x;
+    private static Used x;
     private static PlainDrawer y;
 
     public static void main(String[] args) {
         for (int run = 0; run < RUNS; run++) {
             seed = run * 7919L + 17;
-            x = new DiskDrawer();
+            x = new Used();
             y = new PlainDrawer();
-            for (int call = 0; call < CALLS; call++) {
-                String where = "run " + run + ", call " + call + ": ";
-                act(where, run % 6);
-                if (call % 5 == 0) {
-                    compareAll(where);
-                }
+            if (run % 2 == 0) {
+                shortRun("run " + run + ", call ", run / 2 % 6);
+            } else {
+                longRun("run " + run + ", call ", run / 2 % 6);
             }
         }
         CHECK.end();
+    }
+
+    /** A few acts, and then all that is told. */
+    private static void shortRun(String run, int profile) {
+        int acts = from(1, 60);
+        for (int call = 0; call < acts && x.callsLeft() >= CALLS_OF_AN_ACT + CALLS_OF_COMPARING; call++) {
+            act(run + call + ": ", profile);
+        }
+        compareAll(run + "last: ");
+    }
+
+    /** Acts to the last call that is promised, with something told behind each. */
+    private static void longRun(String run, int profile) {
+        int call = 0;
+        while (x.callsLeft() >= CALLS_OF_AN_ACT) {
+            act(run + call + ": ", profile);
+            tell(run + call + ": ");
+            call++;
+        }
+        while (x.callsLeft() > 0) {
+            tell(run + call + ": ");
+        }
     }
 
     /** A number from 0 to bound - 1, the same ones in each run of the test. */
@@ -129,7 +151,6 @@ public final class ModelTest {
             for (int more = any(3) == 0 ? 5 : 1; more > 0; more--) {
                 due(where + "undo()", x.undo(), y.undo());
                 due(where + "ticks behind undo()", x.count(0), y.count(0));
-                due(where + "reads behind undo()", x.count(4), y.count(4));
             }
         } else if (kind < 94) {
             due(where + "keep()", x.keep(), y.keep());
@@ -147,18 +168,49 @@ public final class ModelTest {
         }
     }
 
+    private static void tell(String where) {
+        int kind = any(20);
+        if (kind < 9) {
+            dueCount(where, from(-1, 30));
+        } else if (kind < 13) {
+            dueDisk(where, from(0, 11), from(0, 7));
+        } else if (kind < 17) {
+            dueRead(where, y.count(4) - from(0, 20), from(0, 4));
+        } else if (kind < 18) {
+            dueDisk(where, from(-1, 12), from(-1, 8));
+            if (x.callsLeft() > 0) {
+                dueRead(where, from(-1, y.count(4)), from(-1, 5));
+            }
+        } else {
+            due(where + "couldStart()", x.couldStart(), y.couldStart());
+        }
+    }
+
+    private static void dueCount(String where, int what) {
+        due(where + "count(" + what + ")", x.count(what), y.count(what));
+    }
+
+    private static void dueDisk(String where, int disk, int what) {
+        due(where + "disk(" + disk + ", " + what + ")", x.disk(disk, what), y.disk(disk, what));
+    }
+
+    private static void dueRead(String where, int read, int what) {
+        due(where + "readOf(" + read + ", " + what + ")", x.readOf(read, what), y.readOf(read, what));
+    }
+
     private static void compareAll(String where) {
         for (int what = -1; what <= 30; what++) {
-            due(where + "count(" + what + ")", x.count(what), y.count(what));
+            dueCount(where, what);
         }
         for (int disk = 0; disk < 12; disk++) {
             for (int what = 0; what < 8; what++) {
-                due(where + "disk(" + disk + ", " + what + ")", x.disk(disk, what), y.disk(disk, what));
+                dueDisk(where, disk, what);
             }
         }
         for (int read = y.count(4) - 60; read <= y.count(4); read++) {
-            for (int what = -1; what <= 5; what++) {
-                due(where + "readOf(" + read + ", " + what + ")", x.readOf(read, what), y.readOf(read, what));
+            int lastWhat = y.readOf(read, 0) < 0 ? 0 : 4;
+            for (int what = 0; what <= lastWhat; what++) {
+                dueRead(where, read, what);
             }
         }
         due(where + "couldStart()", x.couldStart(), y.couldStart());

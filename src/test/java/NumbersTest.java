@@ -24,7 +24,7 @@ public final class NumbersTest {
     }
 
     private static void newObject() {
-        DiskDrawer x = new DiskDrawer();
+        Used x = new Used();
         int[] due = {0, 12, 0, 0, 0, 0, 0, 12, 0, 0, 0, 0, 0, 0, 0, 0, 0, 0, 0, -2};
         for (int what = 0; what < due.length; what++) {
             CHECK.due("new: count(" + what + ")", x.count(what), due[what]);
@@ -47,7 +47,7 @@ public final class NumbersTest {
     }
 
     private static void rangesOfSet() {
-        DiskDrawer x = new DiskDrawer();
+        Used x = new Used();
         for (int which = 0; which < 10; which++) {
             String set = "set(" + which + ", ";
             CHECK.due(set + "as it is)", x.set(which, FIRST[which]), -5);
@@ -67,7 +67,7 @@ public final class NumbersTest {
             CHECK.due("set(" + which + ", 5)", x.set(which, 5), -1);
             CHECK.due("set(" + which + ", -7)", x.set(which, -7), -1);
         }
-        DiskDrawer y = new DiskDrawer();
+        Used y = new Used();
         y.set(0, 6);
         y.set(0, 0);
         y.set(10, 0);
@@ -75,7 +75,7 @@ public final class NumbersTest {
     }
 
     private static void setChangesNothingThatGoesOn() {
-        DiskDrawer x = new DiskDrawer();
+        Used x = new Used();
         x.read(0, 1);
         x.read(1, 1);
         x.run(1);
@@ -91,7 +91,7 @@ public final class NumbersTest {
     }
 
     private static void setActsOnWhatComes() {
-        DiskDrawer x = new DiskDrawer();
+        Used x = new Used();
         x.set(0, 1);
         x.read(0, 2);
         x.run(1);
@@ -100,7 +100,7 @@ public final class NumbersTest {
         CHECK.due("second tick of the read", x.run(1), 1);
         int[][] due = {{1, 37, 37}, {2, 11, 11}, {3, 13, 11}, {4, 5, 5}};
         for (int[] each : due) {
-            DiskDrawer y = new DiskDrawer();
+            Used y = new Used();
             y.read(0, 1);
             y.run(each[0] == 1 ? 1 : 7);
             y.set(each[0], each[1]);

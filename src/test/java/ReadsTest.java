@@ -14,7 +14,7 @@ public final class ReadsTest {
     }
 
     private static void readsAreNumbered() {
-        DiskDrawer x = new DiskDrawer();
+        Used x = new Used();
         CHECK.due("read(11, 50)", x.read(11, 50), 0);
         CHECK.due("read(0, 1)", x.read(0, 1), 1);
         CHECK.due("read(11, 1)", x.read(11, 1), 2);
@@ -28,7 +28,7 @@ public final class ReadsTest {
     }
 
     private static void wrongInputs() {
-        DiskDrawer x = new DiskDrawer();
+        Used x = new Used();
         for (int disk : new int[] {-1, 12, Integer.MIN_VALUE, Integer.MAX_VALUE}) {
             CHECK.due("read(" + disk + ", 1)", x.read(disk, 1), -1);
             CHECK.due("read(" + disk + ", 0)", x.read(disk, 0), -1);
@@ -48,8 +48,8 @@ public final class ReadsTest {
         CHECK.due("only the read is recorded", x.count(17), 1);
     }
 
-    private static DiskDrawer withBrokenDisk(int disk) {
-        DiskDrawer x = new DiskDrawer();
+    private static Used withBrokenDisk(int disk) {
+        Used x = new Used();
         x.set(0, 1);
         x.read(disk, 1);
         for (int start = 0; start < 3; start++) {
@@ -61,7 +61,7 @@ public final class ReadsTest {
     }
 
     private static void thirtyAtATime() {
-        DiskDrawer x = withBrokenDisk(5);
+        Used x = withBrokenDisk(5);
         for (int read = 0; read < 30; read++) {
             CHECK.due("read " + read, x.read(read % 5, 50), read + 1);
         }
@@ -80,7 +80,7 @@ public final class ReadsTest {
     }
 
     private static void fiveHundredEver() {
-        DiskDrawer x = new DiskDrawer();
+        Used x = new Used();
         x.set(0, 1);
         x.set(9, 0);
         Check.write(x, "read 0 1;read 1 1;read 2 1;read 3 1;read 4 1;run 4");
@@ -103,7 +103,7 @@ public final class ReadsTest {
     }
 
     private static void drops() {
-        DiskDrawer x = new DiskDrawer();
+        Used x = new Used();
         for (int read = 0; read < 4; read++) {
             x.read(read % 2, 10 + read);
         }
@@ -126,7 +126,7 @@ public final class ReadsTest {
     }
 
     private static void dropOfWhatGoesOn() {
-        DiskDrawer x = new DiskDrawer();
+        Used x = new Used();
         x.read(0, 5);
         x.read(0, 2);
         x.run(9);
@@ -147,7 +147,7 @@ public final class ReadsTest {
     }
 
     private static void tellsOfReads() {
-        DiskDrawer x = new DiskDrawer();
+        Used x = new Used();
         x.run(10);
         x.read(3, 4);
         x.run(2);

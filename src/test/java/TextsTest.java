@@ -15,7 +15,7 @@ public final class TextsTest {
     }
 
     private static void typing() {
-        DiskDrawer x = new DiskDrawer();
+        Used x = new Used();
         for (int length = 1; length <= 80; length++) {
             CHECK.due("type", x.type((char) (length * 800)), length);
             CHECK.due("length", x.count(18), length);
@@ -38,7 +38,7 @@ public final class TextsTest {
     }
 
     private static void fault(String text, int due) {
-        DiskDrawer x = new DiskDrawer();
+        Used x = new Used();
         String before = Check.state(x);
         CHECK.due("perform of \"" + text + "\"", Check.performed(x, text), -100 - due);
         CHECK.same("the state behind \"" + text + "\"", Check.state(x), before);
@@ -47,7 +47,7 @@ public final class TextsTest {
     }
 
     private static void good(String text, int commands) {
-        DiskDrawer x = new DiskDrawer();
+        Used x = new Used();
         CHECK.due("perform of \"" + text + "\"", Check.performed(x, text), commands);
         CHECK.due("states behind \"" + text + "\"", x.count(17), 1);
         CHECK.due("length of \"" + text + "\"", x.count(18), text.length());
@@ -168,7 +168,7 @@ public final class TextsTest {
         good("run 1;run 1;run 1;run 1;run 1;run 1;run 1;run 1;run 1;run 1;run 1;run 1;run 1", 13);
         fault("run 10;run 10;run 10;run 10;run 10;run 10;run 10;run 10;run 10;run 10;run 10;run", 80);
         good("run 1;run 10;run 10;run 10;run 10;run 10;run 10;run 10;run 10;run 10;run 10;fuse", 12);
-        DiskDrawer x = new DiskDrawer();
+        Used x = new Used();
         Check.write(x, "fuse");
         x.perform();
         x.type(';');
@@ -177,8 +177,8 @@ public final class TextsTest {
     }
 
     private static void performs() {
-        DiskDrawer x = new DiskDrawer();
-        DiskDrawer y = new DiskDrawer();
+        Used x = new Used();
+        Used y = new Used();
         Check.write(x, "read 3 5;fail 4;read 4 7;run 9;read 11 50;run 11");
         CHECK.due("perform()", x.perform(), 6);
         y.read(3, 5);
@@ -195,8 +195,8 @@ public final class TextsTest {
         CHECK.due("undo()", x.undo(), 1);
         CHECK.same("as before", Check.state(x), Check.state(y));
         CHECK.due("undo()", x.undo(), 0);
-        CHECK.same("as a new one", Check.state(x), Check.state(new DiskDrawer()));
-        DiskDrawer z = new DiskDrawer();
+        CHECK.same("as a new one", Check.state(x), Check.state(new Used()));
+        Used z = new Used();
         z.set(5, 10);
         z.set(6, 0);
         z.run(1);
@@ -205,26 +205,30 @@ public final class TextsTest {
         CHECK.due("not blown", z.count(11), 0);
     }
 
-    private static void allOrNone() {
-        DiskDrawer x = new DiskDrawer();
+    private static Used reading() {
+        Used x = new Used();
         x.set(0, 1);
         x.read(0, 50);
         x.run(5);
-        String before = Check.state(x);
-        String counts = Check.counts(x);
-        int[] due = {-4, -4, -4};
+        return x;
+    }
+
+    private static void allOrNone() {
+        String before = Check.state(reading());
+        String counts = Check.counts(reading());
         String[] texts = {
             "fail 1;read 1 9;run 2;fail 1;run 2;fail 1;run 2;run 200;fail 1",
             "read 2 1;fail 1;read 1 9;run 2;fail 1;run 2;fail 1;run 2;read 1 1;fuse",
             "fail 1;read 1 9;run 2;fail 1;run 2;fail 1;run 9;fail 2;fail 1;run 3",
         };
-        for (int text = 0; text < texts.length; text++) {
-            CHECK.due("perform of \"" + texts[text] + "\"", Check.performed(x, texts[text]), due[text]);
+        for (String text : texts) {
+            Used x = reading();
+            CHECK.due("perform of \"" + text + "\"", Check.performed(x, text), -4);
             CHECK.same("nothing is changed", Check.state(x), before);
             x.clearText();
             CHECK.same("nothing is recorded", Check.counts(x), counts);
         }
-        DiskDrawer y = new DiskDrawer();
+        Used y = new Used();
         for (int read = 0; read < 28; read++) {
             y.read(0, 50);
         }
@@ -233,7 +237,7 @@ public final class TextsTest {
         CHECK.due("three more", Check.performed(y, "read 1 1;read 1 2;read 1 3"), -4);
         CHECK.due("reads", y.count(3), 28);
         CHECK.due("room is made in between", Check.performed(y, "read 1 1;read 1 2;run 9;read 1 3"), 4);
-        DiskDrawer z = new DiskDrawer();
+        Used z = new Used();
         z.set(0, 1);
         Check.performed(z, "fail 1;read 1 9;run 2;fail 1;run 2;fail 1;run 2");
         CHECK.due("a fault of the text is told ahead", Check.performed(z, "read 1 1;read 1 0"), -116);
@@ -241,11 +245,11 @@ public final class TextsTest {
     }
 
     private static void noneDoesNothing() {
-        DiskDrawer x = new DiskDrawer();
+        Used x = new Used();
         CHECK.due("perform()", Check.performed(x, "fuse;fail 2;fail 2;fuse;run 1"), 5);
         CHECK.due("one fault is planned", x.fail(3), 2);
         CHECK.due("one tick passed", x.count(0), 1);
-        DiskDrawer y = new DiskDrawer();
+        Used y = new Used();
         CHECK.due("fuse", Check.performed(y, "fuse"), 1);
         CHECK.due("an act even so", y.count(17), 1);
         CHECK.due("undo()", y.undo(), 0);

@@ -19,7 +19,7 @@ public final class TicksTest {
     }
 
     private static void wrongInputs() {
-        DiskDrawer x = new DiskDrawer();
+        Used x = new Used();
         for (int ticks : new int[] {0, 201, -1, Integer.MIN_VALUE, Integer.MAX_VALUE}) {
             CHECK.due("run(" + ticks + ")", x.run(ticks), -2);
         }
@@ -32,7 +32,7 @@ public final class TicksTest {
     }
 
     private static void noMoreThanTheLastTick() {
-        DiskDrawer x = new DiskDrawer();
+        Used x = new Used();
         Check.write(x, "run 200;run 200;run 200;run 200;run 200;run 200;run 200;run 200;run 200;run 200");
         for (int turn = 0; turn < 49; turn++) {
             CHECK.due("turn " + turn, x.perform(), 10);
@@ -55,7 +55,7 @@ public final class TicksTest {
     }
 
     private static void startsWaitForOneAnother() {
-        DiskDrawer x = new DiskDrawer();
+        Used x = new Used();
         x.set(5, 500);
         x.set(8, 2);
         for (int disk = 11; disk >= 0; disk--) {
@@ -80,7 +80,7 @@ public final class TicksTest {
     }
 
     private static void startsWaitForTheFuse() {
-        DiskDrawer x = new DiskDrawer();
+        Used x = new Used();
         x.set(8, 12);
         x.set(5, 11 + 20 + 19);
         for (int disk = 0; disk < 4; disk++) {
@@ -94,7 +94,7 @@ public final class TicksTest {
         x.set(5, 49);
         x.run(1);
         CHECK.due("less allows one", x.count(8), 1);
-        DiskDrawer y = new DiskDrawer();
+        Used y = new Used();
         y.set(4, 5);
         y.set(1, 1);
         y.set(5, 56);
@@ -107,7 +107,7 @@ public final class TicksTest {
         y.set(5, 55);
         y.run(1);
         CHECK.due("but it must bear the rest", y.count(8), 0);
-        DiskDrawer z = new DiskDrawer();
+        Used z = new Used();
         z.set(0, 1);
         z.set(9, 500);
         z.read(0, 1);
@@ -126,7 +126,7 @@ public final class TicksTest {
     }
 
     private static void disksRest() {
-        DiskDrawer x = new DiskDrawer();
+        Used x = new Used();
         x.set(9, 3);
         x.read(0, 2);
         CHECK.due("answered", x.run(8), 1);
@@ -150,7 +150,7 @@ public final class TicksTest {
     }
 
     private static void disksNeverRest() {
-        DiskDrawer x = new DiskDrawer();
+        Used x = new Used();
         x.set(9, 0);
         x.read(0, 1);
         x.run(7);
@@ -163,7 +163,7 @@ public final class TicksTest {
         CHECK.due("it spins until the next tick", x.disk(0, 0), 2);
         x.run(1);
         CHECK.due("it rests", x.disk(0, 0), 0);
-        DiskDrawer y = new DiskDrawer();
+        Used y = new Used();
         y.set(9, 500);
         y.read(0, 1);
         y.run(7);
@@ -176,8 +176,8 @@ public final class TicksTest {
     }
 
     /** A drawer in which one disk starts for long, with a current of 31. */
-    private static DiskDrawer starting() {
-        DiskDrawer x = new DiskDrawer();
+    private static Used starting() {
+        Used x = new Used();
         x.set(0, 20);
         x.read(0, 5);
         x.run(1);
@@ -186,7 +186,7 @@ public final class TicksTest {
     }
 
     private static void fuseBearsForAWhile() {
-        DiskDrawer x = starting();
+        Used x = starting();
         x.set(5, 30);
         for (int hot = 1; hot <= 3; hot++) {
             x.run(1);
@@ -201,7 +201,7 @@ public final class TicksTest {
         x.run(50);
         CHECK.due("it doesn't blow again", x.count(13), 1);
         CHECK.due("no hot ticks", x.count(12), 0);
-        DiskDrawer y = starting();
+        Used y = starting();
         y.set(7, 0);
         y.set(5, 31);
         y.run(1);
@@ -212,7 +212,7 @@ public final class TicksTest {
     }
 
     private static void hotTicksBeginAnew() {
-        DiskDrawer x = starting();
+        Used x = starting();
         x.set(5, 30);
         x.run(3);
         CHECK.due("hot ticks", x.count(12), 3);
@@ -230,7 +230,7 @@ public final class TicksTest {
     }
 
     private static void fuseBlowsAtOnce() {
-        DiskDrawer x = starting();
+        Used x = starting();
         x.set(5, 21);
         x.run(1);
         CHECK.due("as much more as it bears", x.count(11), 0);
@@ -251,7 +251,7 @@ public final class TicksTest {
     }
 
     private static void aBlownFuseCutsOff() {
-        DiskDrawer x = new DiskDrawer();
+        Used x = new Used();
         x.read(0, 10);
         x.read(0, 5);
         x.read(1, 10);
@@ -291,7 +291,7 @@ public final class TicksTest {
     }
 
     private static void aNewFuseInTime() {
-        DiskDrawer x = new DiskDrawer();
+        Used x = new Used();
         x.read(0, 10);
         x.run(9);
         x.set(5, 10);
@@ -308,7 +308,7 @@ public final class TicksTest {
     }
 
     private static void ticksOfAnsweredReads() {
-        DiskDrawer x = new DiskDrawer();
+        Used x = new Used();
         x.run(3);
         x.read(0, 2);
         x.run(1);
