@@ -88,7 +88,7 @@ public final class DiskDrawer {
         return past.recorded(now.dropRead(read));
     }
 
-    /** Plans that the next start of a disk that ends fails; returns how many disks have a fault planned; or an error. */
+    /** Plans that the next start of a disk that ends fails; returns how many have a fault planned; or an error. */
     public int fail(int disk) {
         past.prepare(now);
         return past.recorded(now.planFault(disk));

@@ -28,7 +28,8 @@ public final class CountsEdgesTest {
     private static void newObject() {
         CHECK.sentence("Creates a drawer whose disks stand by.");
         Used x = new Used();
-        int[] due = {0, 12, 0, 0, 0, 0, 0, 12, 0, 0, 0, 0, 0, 0, 0, 0, 0, 0, 0, -2, 6, 20, 6, 4, 1, 90, 10, 3, 3, 40, -2};
+        int[] due = {0, 12, 0, 0, 0, 0, 0, 12, 0, 0, 0, 0, 0, 0, 0, 0, 0, 0, 0, -2,
+            6, 20, 6, 4, 1, 90, 10, 3, 3, 40, -2};
         for (int what = 0; what < due.length; what++) {
             CHECK.due("count(" + what + ")", x.count(what), due[what]);
         }
@@ -220,7 +221,8 @@ public final class CountsEdgesTest {
     }
 
     private static void theFuse() {
-        CHECK.sentence("11 for whether the fuse is blown (1, otherwise 0), 12 for its hot ticks, 13 for fuses blown so far");
+        CHECK.sentence("11 for whether the fuse is blown (1, otherwise 0), 12 for its hot ticks, "
+            + "13 for fuses blown so far");
         Used x = new Used();
         x.set(5, 11);
         x.set(7, 1);
@@ -273,8 +275,8 @@ public final class CountsEdgesTest {
     }
 
     private static void ticksOfAnsweredReads() {
-        CHECK.sentence("16 for the ticks of all answered reads together (of each: the count behind the tick in which it was "
-            + "answered, less the count as it was asked for)");
+        CHECK.sentence("16 for the ticks of all answered reads together (of each: the count behind the tick in which "
+            + "it was answered, less the count as it was asked for)");
         Used x = new Used();
         x.read(0, 1);
         x.run(6);

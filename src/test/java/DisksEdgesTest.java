@@ -10,11 +10,13 @@ public final class DisksEdgesTest {
         faultsPlanned();
         orderOfErrorsOfFail();
         nextStartThatEnds();
+        startsOfAnyTicksFail();
         plannedBehindTheStart();
         plannedForACutOffStart();
         replaceTellsWhatItDid();
         replacedOneHasNothing();
         readsOfTheOldOneWait();
+        allReadsWait();
         readsOfABrokenOneStayLost();
         replacedInTheLastTick();
         whatOfDisk();
@@ -39,8 +41,8 @@ public final class DisksEdgesTest {
 
     private static void currentOfNow() {
         CHECK.sentence("The current of now is the sum of those of all disks: a broken one has none, one that stands by "
-            + "that of standing by, one that starts that of a start, one that spins that of spinning, and that of a read "
-            + "if it reads.");
+            + "that of standing by, one that starts that of a start, one that spins that of spinning, and that of a "
+            + "read if it reads.");
         Used x = Drawers.broken(0);
         CHECK.due("of a broken one", x.disk(0, 1), 0);
         CHECK.due("of eleven", x.count(1), 11);
@@ -136,6 +138,28 @@ public final class DisksEdgesTest {
             CHECK.due("failed starts", x.count(15), 1);
             CHECK.due("the next one does not", x.run(7), 1);
             CHECK.due("failed starts still", x.count(15), 1);
+        }
+    }
+
+    private static void startsOfAnyTicksFail() {
+        CHECK.sentence("Plans that the next start of a disk that ends fails.");
+        for (int ticks : new int[] {1, 2, 19, 20}) {
+            for (int behind = 0; behind <= 1; behind++) {
+                Used x = new Used();
+                x.set(0, ticks);
+                x.read(0, 1);
+                if (behind == 0) {
+                    x.fail(0);
+                }
+                x.run(1);
+                if (behind == 1) {
+                    x.fail(0);
+                }
+                x.run(ticks);
+                CHECK.due("failed starts of " + ticks + " ticks", x.count(15), 1);
+                CHECK.due("the fault is used up", x.disk(0, 6), 0);
+                CHECK.due("the next one does not fail", x.run(1 + ticks), 1);
+            }
         }
     }
 
@@ -247,6 +271,22 @@ public final class DisksEdgesTest {
         CHECK.due("undone", x.readOf(0, 2), 1);
     }
 
+    private static void allReadsWait() {
+        CHECK.sentence("the reads of the old one wait for it, from their beginning.");
+        for (int disk : new int[] {0, 11}) {
+            Used x = new Used();
+            for (int read = 0; read < 30; read++) {
+                x.read(disk, 9);
+            }
+            x.run(7);
+            CHECK.due("the first goes on", x.readOf(0, 2), 8);
+            CHECK.due("replace(" + disk + ")", x.replace(disk), 2);
+            CHECK.due("left of the first", x.readOf(0, 2), 9);
+            CHECK.due("left of the 30th", x.readOf(29, 2), 9);
+            CHECK.due("all wait", x.disk(disk, 5), 30);
+        }
+    }
+
     private static void readsOfABrokenOneStayLost() {
         CHECK.sentence("it stays so, and all its reads are lost.");
         Used x = Drawers.broken(5);
@@ -294,9 +334,10 @@ public final class DisksEdgesTest {
 
     private static void eachWhat() {
         CHECK.sentence("It has a count of starts that failed one behind the other, and of how many ticks it was idle.");
-        CHECK.sentence("`what`: 0 for what it does (0 to 3), 1 for its current, 2 for ticks until its start ends (0 if it "
-            + "does not start), 3 for its failed starts one behind the other, 4 for its idle ticks (0 if it does not "
-            + "spin), 5 for its reads (those that wait and go on), 6 for whether a fault is planned (1, otherwise 0)");
+        CHECK.sentence("`what`: 0 for what it does (0 to 3), 1 for its current, 2 for ticks until its start ends (0 if "
+            + "it does not start), 3 for its failed starts one behind the other, 4 for its idle ticks (0 if it does "
+            + "not spin), 5 for its reads (those that wait and go on), 6 for whether a fault is planned "
+            + "(1, otherwise 0)");
         Used x = new Used();
         x.set(9, 3);
         x.set(0, 2);

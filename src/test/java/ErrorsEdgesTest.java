@@ -4,7 +4,8 @@ import java.util.function.ToIntFunction;
 /** Edges of ERRORS: each error and each NONE of each method, that it changes nothing, and the order of the checks. */
 public final class ErrorsEdgesTest {
     private static final Check CHECK = new Check("ErrorsEdgesTest");
-    private static final int[] FAR = {Integer.MIN_VALUE, Integer.MIN_VALUE + 1, -100, Integer.MAX_VALUE - 1, Integer.MAX_VALUE};
+    private static final int[] FAR =
+        {Integer.MIN_VALUE, Integer.MIN_VALUE + 1, -100, Integer.MAX_VALUE - 1, Integer.MAX_VALUE};
 
     private static String situation;
     private static Supplier<Used> maker;
@@ -194,7 +195,8 @@ public final class ErrorsEdgesTest {
     }
 
     private static void texts() {
-        String[] impossible = {"fail 0", "run 9;read 0 1", "fail 8;read 8 9;run 30;fail 9;read 9 1;fuse;read 0 1;run 1"};
+        String[] impossible =
+            {"fail 0", "run 9;read 0 1", "fail 8;read 8 9;run 30;fail 9;read 9 1;fuse;read 0 1;run 1"};
         for (String text : impossible) {
             unchanged("perform() of \"" + text + "\"", x -> performedBetween(x, text), -4);
         }

@@ -31,8 +31,8 @@ public final class ForeseenEdgesTest {
     }
 
     private static void couldStartAtOnce() {
-        CHECK.sentence("Tells how many disks that stand by could start now, one behind the other as new starts in a tick do "
-            + "(4.), as far as the fuse and the number at once allow, whether they have reads or not.");
+        CHECK.sentence("Tells how many disks that stand by could start now, one behind the other as new starts in a "
+            + "tick do (4.), as far as the fuse and the number at once allow, whether they have reads or not.");
         Used x = new Used();
         x.set(5, 500);
         for (int most = 1; most <= 12; most++) {
@@ -58,7 +58,8 @@ public final class ForeseenEdgesTest {
         CHECK.sentence("as far as the fuse and the number at once allow");
         Used x = new Used();
         x.set(8, 12);
-        int[][] due = {{10, 0}, {30, 0}, {31, 1}, {49, 1}, {50, 2}, {220, 10}, {221, 11}, {239, 11}, {240, 12}, {500, 12}};
+        int[][] due =
+            {{10, 0}, {30, 0}, {31, 1}, {49, 1}, {50, 2}, {220, 10}, {221, 11}, {239, 11}, {240, 12}, {500, 12}};
         for (int[] each : due) {
             x.set(5, each[0]);
             CHECK.due("with a fuse of " + each[0], x.couldStart(), each[1]);
@@ -275,8 +276,8 @@ public final class ForeseenEdgesTest {
     }
 
     private static void untilNoReadWaitsFrom0() {
-        CHECK.sentence("`what`: 0 for the ticks until no read waits or goes on (0 if none does; up to 400; NONE if they are "
-            + "not by then)");
+        CHECK.sentence("`what`: 0 for the ticks until no read waits or goes on (0 if none does; up to 400; NONE if "
+            + "they are not by then)");
         Used x = new Used();
         CHECK.due("none does", x.ifAtOnce(1, 0), 0);
         x.read(0, 2);

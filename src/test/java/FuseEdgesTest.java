@@ -40,8 +40,8 @@ public final class FuseEdgesTest {
     private static final int BLOWN = 1100;
 
     private static void aboveTheFuseAndMore() {
-        CHECK.sentence("The fuse: if the current of now (by what the disks do then) is above the fuse and what it bears "
-            + "more, it blows.");
+        CHECK.sentence("The fuse: if the current of now (by what the disks do then) is above the fuse and what it "
+            + "bears more, it blows.");
         Used x = fuseOf(10, 3, 20);
         x.run(1);
         fuse("12 is below 10 + 3", x, 1);
@@ -128,8 +128,8 @@ public final class FuseEdgesTest {
     }
 
     private static void currentsOfThen() {
-        CHECK.sentence("The fuse: if the current of now (by what the disks do then) is above the fuse and what it bears "
-            + "more, it blows.");
+        CHECK.sentence("The fuse: if the current of now (by what the disks do then) is above the fuse and what it "
+            + "bears more, it blows.");
         Used x = fuseOf(31, 0, 0);
         x.read(0, 1);
         x.run(6);

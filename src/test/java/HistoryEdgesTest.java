@@ -1,3 +1,4 @@
+import java.util.function.Supplier;
 import java.util.function.ToIntFunction;
 
 /** Edges of HISTORY and of promises 12, 13 and 14. */
@@ -117,49 +118,67 @@ public final class HistoryEdgesTest {
         CHECK.due("one more drops it", y.count(0), 1);
     }
 
-    private static void recorded(String call, Used x, ToIntFunction<Used> act, int due) {
+    private static void recorded(String call, Supplier<Used> before, ToIntFunction<Used> act, int due) {
+        Used x = before.get();
         int states = x.count(17);
         CHECK.due(call, act.applyAsInt(x), due);
         CHECK.due("states behind " + call, x.count(17), states + 1);
+        CHECK.due("undo() of " + call, x.undo(), states);
+        CHECK.same("the state behind undo() of " + call, Check.state(x), Check.state(before.get()));
     }
 
-    private static Used withNumber(int which, int value) {
+    /** Two acts, and a third one that was undone. */
+    private static Used withARead() {
         Used x = new Used();
-        x.set(which, value);
+        x.read(4, 9);
+        x.set(9, 0);
+        x.run(9);
+        x.undo();
+        return x;
+    }
+
+    private static Used blownWithoutCurrent() {
+        Used x = Drawers.blown();
+        x.set(4, 0);
+        x.keep();
+        for (int left = 3; left >= 0; left--) {
+            x.undo();
+        }
+        x.restore();
+        return x;
+    }
+
+    private static Used withAText() {
+        Used x = withARead();
+        Check.write(x, "fuse");
+        return x;
+    }
+
+    private static Used withASnapshot() {
+        Used x = new Used();
+        x.keep();
+        x.read(4, 9);
         return x;
     }
 
     private static void answersOfZeroAreRecorded() {
-        CHECK.sentence("Each call of a method that is described as an act, and returns no error and not NONE, records the "
-            + "state that was before it.");
+        CHECK.sentence("Each call of a method that is described as an act, and returns no error and not NONE, records "
+            + "the state that was before it.");
         CHECK.sentence("This is an act.");
-        recorded("set(9, 1)", withNumber(9, 0), x -> x.set(9, 1), 0);
-        recorded("read(0, 1)", new Used(), x -> x.read(0, 1), 0);
-        Used one = new Used();
-        one.read(0, 1);
-        recorded("drop(0)", one, x -> x.drop(0), 0);
-        recorded("fail(0)", new Used(), x -> x.fail(0), 1);
-        recorded("replace(0)", new Used(), x -> x.replace(0), 0);
-        Used blown = Drawers.blown();
-        blown.set(4, 0);
-        blown.keep();
-        for (int left = 3; left >= 0; left--) {
-            blown.undo();
-        }
-        blown.restore();
-        recorded("fuse()", blown, Used::fuse, 0);
-        recorded("run(1)", new Used(), x -> x.run(1), 0);
-        Used text = new Used();
-        Check.write(text, "fuse");
-        recorded("perform()", text, Used::perform, 1);
-        Used kept = new Used();
-        kept.keep();
-        recorded("restore()", kept, Used::restore, 0);
+        recorded("set(9, 1)", HistoryEdgesTest::withARead, x -> x.set(9, 1), 0);
+        recorded("read(0, 1)", Used::new, x -> x.read(0, 1), 0);
+        recorded("drop(0)", HistoryEdgesTest::withARead, x -> x.drop(0), 0);
+        recorded("fail(0)", HistoryEdgesTest::withARead, x -> x.fail(0), 1);
+        recorded("replace(0)", HistoryEdgesTest::withARead, x -> x.replace(0), 0);
+        recorded("fuse()", HistoryEdgesTest::blownWithoutCurrent, Used::fuse, 0);
+        recorded("run(1)", HistoryEdgesTest::withARead, x -> x.run(1), 0);
+        recorded("perform()", HistoryEdgesTest::withAText, Used::perform, 1);
+        recorded("restore()", HistoryEdgesTest::withASnapshot, Used::restore, 0);
     }
 
     private static void errorsAreNotRecorded() {
-        CHECK.sentence("Each call of a method that is described as an act, and returns no error and not NONE, records the "
-            + "state that was before it.");
+        CHECK.sentence("Each call of a method that is described as an act, and returns no error and not NONE, records "
+            + "the state that was before it.");
         Used x = Drawers.broken(3);
         x.undo();
         x.undo();

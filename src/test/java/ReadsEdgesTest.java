@@ -188,7 +188,8 @@ public final class ReadsEdgesTest {
     }
 
     private static void orderOfErrors() {
-        CHECK.sentence("Returns its number; UNKNOWN; BAD_VALUE; NOT_POSSIBLE if the disk is broken; FULL if there are 30");
+        CHECK.sentence("Returns its number; UNKNOWN; BAD_VALUE; NOT_POSSIBLE if the disk is broken; "
+            + "FULL if there are 30");
         Used x = Drawers.broken(4);
         for (int read = 1; read < 30; read++) {
             x.read(5, 50);

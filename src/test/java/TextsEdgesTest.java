@@ -108,6 +108,17 @@ public final class TextsEdgesTest {
         x.type('r');
         CHECK.due("nothing of the old one is behind the new one", x.perform(), -101);
         CHECK.due("no act", x.count(17), 0);
+        String[] longer = {"run 111", "run 20;fuse", "read 0 11", "read 11 1", "fail 11", "fuse;fuse", "run 5;run 5"};
+        String[] shorter = {"run 1", "run 20;", "read 0 1", "read 1", "fail 1", "fuse", "run"};
+        int[] due = {1, -107, 1, -106, 1, 1, -103};
+        for (int place = 0; place < due.length; place++) {
+            Check.write(x, longer[place]);
+            CHECK.due("\"" + shorter[place] + "\" behind \"" + longer[place] + "\"",
+                Check.performed(x, shorter[place]), due[place]);
+        }
+        CHECK.due("only the digits of the new one count", x.count(0), 1);
+        CHECK.due("of a read, too", x.readOf(0, 1), 1);
+        CHECK.due("and of a disk", x.disk(1, 6) - x.disk(11, 6), 1);
     }
 
     private static String times(String text, int times) {
@@ -142,8 +153,8 @@ public final class TextsEdgesTest {
     }
 
     private static void wordsWithAFault() {
-        CHECK.sentence("The fault of the text is the index, from 0, of the first character that is not allowed at its place "
-            + "(of a word: with which no word begins so)");
+        CHECK.sentence("The fault of the text is the index, from 0, of the first character that is not allowed at its "
+            + "place (of a word: with which no word begins so)");
         String[] words = {"read", "run", "fail", "fuse"};
         for (String word : words) {
             for (int place = 0; place < word.length(); place++) {
@@ -194,7 +205,8 @@ public final class TextsEdgesTest {
     }
 
     private static void disks() {
-        CHECK.sentence("\"read\", a blank, a disk (0 to 11), a blank, and ticks (1 to 50); \"fail\", a blank, and a disk");
+        CHECK.sentence("\"read\", a blank, a disk (0 to 11), a blank, and ticks (1 to 50); "
+            + "\"fail\", a blank, and a disk");
         numbers("fail ", 0, 11, "", 1);
         numbers("read ", 0, 11, " 5", 1);
         fault("read -1 5", 5);
@@ -234,8 +246,8 @@ public final class TextsEdgesTest {
     }
 
     private static void zerosInFront() {
-        CHECK.sentence("Numbers have no zero in front unless they are the single digit 0, and one whose range begins at 1 "
-            + "does not begin with 0");
+        CHECK.sentence("Numbers have no zero in front unless they are the single digit 0, and one whose range begins "
+            + "at 1 does not begin with 0");
         good("fail 0", 1);
         fault("fail 00", 6);
         fault("fail 01", 6);
@@ -288,7 +300,8 @@ public final class TextsEdgesTest {
 
     /** A character in the place of another, one too many, and one too few, at every place: as in the plain model. */
     private static void oneCharacterElse() {
-        CHECK.sentence("The fault of the text is the index, from 0, of the first character that is not allowed at its place");
+        CHECK.sentence("The fault of the text is the index, from 0, of the first character that is not allowed "
+            + "at its place");
         String characters = " ;0123456789adefilnrsuxRF\n\u00e9";
         for (String text : new String[] {"read 10 45;run 150", "fail 11;fuse;read 0 5"}) {
             for (int place = 0; place <= text.length(); place++) {
@@ -364,8 +377,8 @@ public final class TextsEdgesTest {
     }
 
     private static void faultAheadOfNotPossible() {
-        CHECK.sentence("Returns how many commands there are; -100 minus the fault of the text if it has one (which is an "
-            + "error); NOT_POSSIBLE if any command would return an error.");
+        CHECK.sentence("Returns how many commands there are; -100 minus the fault of the text if it has one (which is "
+            + "an error); NOT_POSSIBLE if any command would return an error.");
         Used x = Drawers.broken(3);
         CHECK.due("not possible", Check.performed(x, "fail 3"), -4);
         CHECK.due("not possible, and a fault behind it", Check.performed(x, "fail 3;"), -107);

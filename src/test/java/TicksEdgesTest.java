@@ -67,8 +67,8 @@ public final class TicksEdgesTest {
     }
 
     private static void answeredInThem() {
-        CHECK.sentence("Returns how many reads are answered in them; BAD_VALUE; FULL if the count of ticks would be more "
-            + "than 99999.");
+        CHECK.sentence("Returns how many reads are answered in them; BAD_VALUE; FULL if the count of ticks would be "
+            + "more than 99999.");
         Used x = new Used();
         x.read(0, 1);
         x.read(0, 1);
@@ -105,8 +105,8 @@ public final class TicksEdgesTest {
     }
 
     private static void lastTickOfAStart() {
-        CHECK.sentence("Starts: each disk that starts has one tick less; with the last one it fails if a fault was planned "
-            + "for it (see fail()), and spins otherwise (its failed starts are 0 then, its idle ticks, too).");
+        CHECK.sentence("Starts: each disk that starts has one tick less; with the last one it fails if a fault was "
+            + "planned for it (see fail()), and spins otherwise (its failed starts are 0 then, its idle ticks, too).");
         Used x = new Used();
         x.set(0, 2);
         x.fail(1);
@@ -152,8 +152,8 @@ public final class TicksEdgesTest {
     }
 
     private static void thirdFailedStart() {
-        CHECK.sentence("A start that failed: the disk stands by, and its count of failed starts grows by 1; with the third "
-            + "one it is broken: it stays so, and all its reads are lost.");
+        CHECK.sentence("A start that failed: the disk stands by, and its count of failed starts grows by 1; with the "
+            + "third one it is broken: it stays so, and all its reads are lost.");
         Used x = Drawers.failedTwice(2);
         CHECK.due("behind the second it stands by", x.disk(2, 0), 0);
         CHECK.due("its read waits", x.disk(2, 5), 1);
@@ -202,8 +202,8 @@ public final class TicksEdgesTest {
     }
 
     private static void readsOfTheTickOfTheStart() {
-        CHECK.sentence("Reads: each disk that spins, and has a read, goes on with it by a tick; behind its last one the "
-            + "read is answered.");
+        CHECK.sentence("Reads: each disk that spins, and has a read, goes on with it by a tick; behind its last one "
+            + "the read is answered.");
         Used x = new Used();
         x.read(0, 2);
         x.run(6);
