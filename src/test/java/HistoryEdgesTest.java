@@ -127,13 +127,19 @@ public final class HistoryEdgesTest {
         CHECK.same("the state behind undo() of " + call, Check.state(x), Check.state(before.get()));
     }
 
-    /** Two acts, and a third one that was undone. */
+    /** Three acts, none of them undone: no state that was taken from the history could be mistaken for the one now. */
     private static Used withARead() {
         Used x = new Used();
         x.read(4, 9);
         x.set(9, 0);
         x.run(9);
-        x.undo();
+        return x;
+    }
+
+    private static Used withoutAReadYet() {
+        Used x = new Used();
+        x.set(9, 0);
+        x.run(9);
         return x;
     }
 
@@ -145,6 +151,7 @@ public final class HistoryEdgesTest {
             x.undo();
         }
         x.restore();
+        x.fail(3);
         return x;
     }
 
@@ -166,7 +173,7 @@ public final class HistoryEdgesTest {
             + "the state that was before it.");
         CHECK.sentence("This is an act.");
         recorded("set(9, 1)", HistoryEdgesTest::withARead, x -> x.set(9, 1), 0);
-        recorded("read(0, 1)", Used::new, x -> x.read(0, 1), 0);
+        recorded("read(0, 1)", HistoryEdgesTest::withoutAReadYet, x -> x.read(0, 1), 0);
         recorded("drop(0)", HistoryEdgesTest::withARead, x -> x.drop(0), 0);
         recorded("fail(0)", HistoryEdgesTest::withARead, x -> x.fail(0), 1);
         recorded("replace(0)", HistoryEdgesTest::withARead, x -> x.replace(0), 0);
